@@ -15,6 +15,9 @@ public final class AlikeTest {
         ignoredOnesHoldNames();
         ignoredStayInLast();
         comeOnBoth();
+        alikeIn();
+        ignoredWithinIgnored();
+        numberZeroCounts();
         planInOrder();
         refusals();
         Check.end("AlikeTest");
@@ -312,6 +315,103 @@ public final class AlikeTest {
         clashesAre(x);
         targetIs(x, 1, -1, 4, 6, 0);
         Check.is("aside, place, write", x.sync(), 3);
+    }
+
+    private static void alikeIn() {
+        TwoTreesAlike x = new TwoTreesAlike();
+        x.make(0, -1, 0, 5);
+        x.sync();
+        x.write(1, 0, 6);
+        Check.is("contents are unlike", x.would(3), 0);
+        Check.is("a step at once", x.step(0, 0, 0), 3);
+        x.write(1, 0, 5);
+        x.move(1, 0, -1, 1);
+        Check.is("other steps at once", x.step(0, 0, 0), 0);
+        Check.is("names are unlike", x.would(3), 0);
+        Check.is("steps at once", x.step(0, 1, 0), 2);
+        x.move(1, 0, -1, 0);
+        Check.is("alike", x.would(3), 1);
+        x.remove(1, 0);
+        Check.is("one is there alone", x.would(3), 0);
+        x.write(0, 0, 7);
+        Check.is("a clash at once", x.clash(0, 0), 0);
+        x.write(0, 0, 5);
+        Check.is("no clash at once", x.clash(0, 0), -12);
+    }
+
+    private static void ignoredWithinIgnored() {
+        TwoTreesAlike x = new TwoTreesAlike();
+        for (int i = 0; i < 6; i++) {
+            x.make(0, -1, i, -1);
+        }
+        x.sync();
+        // on side 0 each stands in the one of the next number, on side 1 and in LAST in THE ROOT
+        for (int i = 0; i < 5; i++) {
+            x.move(0, i, i + 1, i);
+        }
+        Check.pattern(x, "5");
+        Check.pattern(x, "!5/**/*");
+        for (int i = 0; i < 5; i++) {
+            Check.is("not ignored by its path", x.told(0, i, 7), 0);
+            Check.is("but by its folder", x.told(1, i, 8), 1);
+        }
+        x.drop();
+        x.drop();
+        x.sync();
+        Check.pattern(x, "5/**/3/*");
+        x.remove(0, 5);
+        x.remove(1, 5);
+        Check.is("nothing to do", x.sync(), 0);
+        Check.is("all of them are out of last", x.count(2), 0);
+    }
+
+    private static void numberZeroCounts() {
+        TwoTreesAlike x = new TwoTreesAlike();
+        x.make(0, -1, 0, 5);
+        x.make(0, -1, 1, -1);
+        x.make(0, 1, 2, 5);
+        x.sync();
+        x.move(0, 0, 1, 3);
+        x.remove(1, 1);
+        clashesAre(x, 0, 1);
+        Check.is("kept by thing 0", x.target(1, 1), 1);
+        x.sync();
+        Check.pattern(x, "1/3");
+        x.remove(0, 0);
+        x.move(1, 0, 1, 4);
+        x.make(0, 1, 4, 6);
+        Check.is("ignored by last", x.told(0, 0, 8), 1);
+        clashesAre(x, 3, 3);
+        Check.is("a name that an ignored one has there", x.target(3, 1), 0);
+        x.image();
+        x.write(0, 3, 7);
+        x.sync();
+        x.write(0, 3, 8);
+        x.write(1, 3, 9);
+        x.sync();
+        Check.is("one that came is a file", x.taken(4, 0), 4);
+        x.back();
+        x.make(0, -1, 40, -1);
+        x.back();
+        x.sync();
+        x.write(0, 3, 8);
+        x.write(1, 3, 9);
+        x.sync();
+        Check.is("though its number was a folder's", x.taken(4, 0), 4);
+        TwoTreesAlike y = new TwoTreesAlike();
+        y.make(0, -1, 0, 5);
+        Check.pattern(y, "0");
+        y.make(0, -1, 1, 5);
+        y.sync();
+        y.drop();
+        Check.pattern(y, "1");
+        clashesAre(y);
+        y.move(0, 0, -1, 9);
+        y.make(1, -1, 9, -1);
+        clashesAre(y, 3, 2);
+        y.move(1, 1, -1, 8);
+        y.move(0, 0, -1, 8);
+        clashesAre(y, 3, 0);
     }
 
     private static void planInOrder() {

@@ -20,6 +20,10 @@ public final class PatternsTest {
         Check.is("the order of bytes", x.pattern(), -101);
         x.feed(4, 49, 47, 42, 33, 47);
         Check.is("just as many", x.pattern(), -103);
+        for (int n = 1; n <= 5; n++) {
+            Check.is("n", x.feed(n, 49, 47, 50, 47, 51), n);
+            Check.is("n bytes", x.pattern(), n % 2 == 0 ? -100 - n : n / 2);
+        }
     }
 
     private static void feedRefuses() {
@@ -68,6 +72,7 @@ public final class PatternsTest {
         Check.is("two parts", Check.pattern(x, "1 2"), -102);
         Check.is("***", Check.pattern(x, "***"), -102);
         Check.is("* *", Check.pattern(x, "* *"), -102);
+        Check.is("a byte behind another fault", Check.pattern(x, "a"), -100);
         Check.is("*1", Check.pattern(x, "*1"), -101);
         Check.is("1*", Check.pattern(x, "1*"), -101);
         Check.is("long", Check.pattern(x, "1/ 234"), -103);

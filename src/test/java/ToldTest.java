@@ -144,9 +144,11 @@ public final class ToldTest {
         TwoTreesAlike x = new TwoTreesAlike();
         x.make(0, -1, 1, 5);
         Check.pattern(x, "1");
+        Check.pattern(x, "!7/**/8");
+        x.drop();
         x.image();
         x.drop();
-        Check.pattern(x, "!2");
+        Check.pattern(x, "!2/*");
         Check.pattern(x, "3");
         x.back();
         Check.is("how many", x.count(4), 1);
