@@ -521,10 +521,14 @@ public final class TwoTreesAlike {
             return n;
         }
 
+        boolean isAt(int thing, int inFolder, int underName) {
+            return there[thing] && folder[thing] == inFolder && name[thing] == underName;
+        }
+
         /** Who stands in a FOLDER under a NAME; of several the one of the least number. */
         int standing(int inFolder, int underName) {
             for (int i = 0; i < MOST_THINGS; i++) {
-                if (there[i] && folder[i] == inFolder && name[i] == underName) {
+                if (isAt(i, inFolder, underName)) {
                     return i;
                 }
             }
@@ -535,7 +539,10 @@ public final class TwoTreesAlike {
         int stepsUp(int from, int to) {
             int at = from;
             // a bound, for a TARGET may have rings for a while
-            for (int steps = 0; steps <= MOST_THINGS && has(at); steps++) {
+            for (int steps = 0; steps <= MOST_THINGS; steps++) {
+                if (at < 0 || at >= MOST_THINGS || !there[at]) {
+                    return NONE;
+                }
                 if (at == to) {
                     return steps;
                 }
@@ -560,13 +567,13 @@ public final class TwoTreesAlike {
 
         /** How many FOLDERS are above a thing; NONE of one that isn't there. */
         int depth(int thing) {
-            int deep = NONE;
+            int above = 0;
             int at = thing;
-            for (int i = 0; i < MOST_THINGS && has(at); i++) {
-                deep++;
+            while (above < MOST_THINGS && at >= 0 && at < MOST_THINGS && there[at]) {
+                above++;
                 at = folder[at];
             }
-            return deep;
+            return above - 1;
         }
 
         /** Lays the NAMES from THE ROOT to a thing into a row; answers how many they are. */
@@ -1113,18 +1120,15 @@ public final class TwoTreesAlike {
         }
 
         private boolean ignoredHas(int folder, int name) {
-            for (int i = 0; i < world.total; i++) {
-                if (ignored[i] && (stands(0, i, folder, name) || stands(1, i, folder, name)
-                        || stands(LAST, i, folder, name))) {
-                    return true;
+            for (int side = 0; side < TREES; side++) {
+                Tree tree = world.trees[side];
+                for (int i = 0; i < world.total; i++) {
+                    if (ignored[i] && tree.isAt(i, folder, name)) {
+                        return true;
+                    }
                 }
             }
             return false;
-        }
-
-        private boolean stands(int side, int thing, int folder, int name) {
-            Tree tree = world.trees[side];
-            return tree.has(thing) && tree.folder[thing] == folder && tree.name[thing] == name;
         }
 
         private int leastFreeName(int folder) {
