@@ -18,6 +18,7 @@ public final class AlikeTest {
         alikeIn();
         ignoredWithinIgnored();
         numberZeroCounts();
+        namesAboveFortyNine();
         planInOrder();
         refusals();
         Check.end("AlikeTest");
@@ -412,6 +413,33 @@ public final class AlikeTest {
         y.move(1, 1, -1, 8);
         y.move(0, 0, -1, 8);
         clashesAre(y, 3, 0);
+    }
+
+    private static void namesAboveFortyNine() {
+        TwoTreesAlike x = new TwoTreesAlike();
+        x.make(0, -1, 40, -1);
+        x.make(0, -1, 41, -1);
+        for (int i = 0; i < 25; i++) {
+            x.make(0, 0, i, i);
+        }
+        x.sync();
+        // 25 that are ignored by where they stand on side 1 have 50 names in folder 0, on side 0 and in LAST
+        for (int i = 0; i < 25; i++) {
+            x.move(0, 2 + i, 0, 25 + i);
+            x.move(1, 2 + i, 1, i);
+        }
+        Check.pattern(x, "41/*");
+        x.make(0, 0, 3, 100);
+        x.make(1, 0, 30, 101);
+        clashesAre(x, 3, 27, 3, 28);
+        targetIs(x, 27, 0, 50, 100, 1);
+        targetIs(x, 28, 0, 51, 101, 1);
+        x.sync();
+        Check.is("found", x.find(0, 0, 51), 28);
+        Check.is("but no name to be told", x.move(0, 28, 0, 51), -2);
+        x.drop();
+        Check.pattern(x, "40/51");
+        Check.is("a pattern may", x.matches(0, 1, 28), 1);
     }
 
     private static void planInOrder() {

@@ -14,24 +14,34 @@ public final class OracleTest {
     private final Model m = new Model();
     private final int wildness;
     private final int names;
+    private final boolean hasPatterns;
+    private final int folders;
     private int calls = 0;
+
+    // clashes of kinds 0 to 4, ignored ones, ones that came on both sides, at the ends of runs
+    private static final int[] seen = new int[7];
 
     private OracleTest(int run) {
         random = new Random(run);
         name = "run " + run;
         wildness = run % 4 == 0 ? 8 : 60;
-        names = run % 3 == 0 ? 50 : 5;
+        names = run % 5 == 0 ? 50 : 6;
+        hasPatterns = run % 3 != 0;
+        folders = 1 + run % 4;
     }
 
     public static void main(String[] args) {
         for (int run = 0; run < RUNS; run++) {
             new OracleTest(run).go();
         }
+        for (int i = 0; i < seen.length; i++) {
+            Check.holds("the runs have what they should try: " + i + " just " + seen[i], seen[i] > 10);
+        }
         Check.end("OracleTest");
     }
 
     private void go() {
-        while (calls < CALLS - 25) {
+        while (calls < CALLS - 35) {
             if (random.nextInt(7) == 0) {
                 ask();
             } else {
@@ -79,7 +89,7 @@ public final class OracleTest {
         int v = number(random.nextBoolean() ? 3 : 1000);
         switch (random.nextInt(20)) {
             case 0, 1, 2, 3 -> {
-                int content = random.nextInt(2) == 0 ? -1 : v;
+                int content = random.nextInt(5) < folders ? -1 : v;
                 is("make", x.make(side, folder, called, content), m.make(side, folder, called, content));
             }
             case 4, 5, 6, 7 -> is("write", x.write(side, thing, v), m.write(side, thing, v));
@@ -88,17 +98,50 @@ public final class OracleTest {
             case 14 -> {
                 if (random.nextInt(3) == 0) {
                     is("sync", x.sync(), m.sync());
+                } else {
+                    cross(thing, thing());
                 }
             }
             case 15 -> pattern();
             case 16 -> {
-                if (random.nextInt(2) == 0) {
-                    is("drop", x.drop(), m.drop());
+                is("drop", x.drop(), m.drop());
+                if (hasPatterns && random.nextInt(3) == 0) {
+                    leaveHome(thing);
                 }
             }
             case 17 -> is("prefer", x.prefer(side), m.prefer(side));
             case 18 -> images();
             default -> sheets();
+        }
+    }
+
+    /** Two go into one another, each on a side: a ring, if they are folders. */
+    private void cross(int a, int b) {
+        int called = number(names);
+        is("move a", x.move(0, a, b, called), m.move(0, a, b, called));
+        is("move b", x.move(1, b, a, called), m.move(1, b, a, called));
+    }
+
+    /** One that is ignored loses its folder in LAST, but stays on both sides: it has COME on both, when it no longer is. */
+    private void leaveHome(int thing) {
+        int home = m.told(2, thing, 1);
+        if (home < 0 || m.told(2, home, 5) != 0 || m.count(4) == 6 || m.count(5) > 0) {
+            return;
+        }
+        String text = m.told(2, home, 2) + "/" + m.told(2, thing, 2);
+        for (int i = 0; i < text.length(); i++) {
+            is("feed", x.feed(1, text.charAt(i), 0, 0, 0, 0), m.feed(1, text.charAt(i), 0, 0, 0, 0));
+        }
+        is("pattern", x.pattern(), m.pattern());
+        for (int side = 0; side < 2; side++) {
+            int called = number(names);
+            is("leave", x.move(side, thing, -1, called), m.move(side, thing, -1, called));
+            is("remove", x.remove(side, home), m.remove(side, home));
+        }
+        is("sync", x.sync(), m.sync());
+        is("drop", x.drop(), m.drop());
+        for (int what = 0; what < 4; what++) {
+            is("target", x.target(thing, what), m.target(thing, what));
         }
     }
 
@@ -136,10 +179,14 @@ public final class OracleTest {
 
     /** Some text, of which most is a PATTERN. */
     private void pattern() {
+        if (!hasPatterns) {
+            return;
+        }
         StringBuilder text = new StringBuilder(random.nextInt(4) == 0 ? "!" : "");
         int parts = 1 + random.nextInt(random.nextInt(9) == 0 ? 9 : 3);
         for (int i = 0; i < parts; i++) {
-            String[] some = {"*", "**", "" + random.nextInt(names), "0" + random.nextInt(10), " 1", "3 ", "2\n"};
+            String called = "" + random.nextInt(names);
+            String[] some = {called, called, called, called, i == 0 ? called : "*", i == 0 ? called : "**", "**", "0" + called, " 1", "3 ", "2\n"};
             text.append(i == 0 ? "" : "/").append(some[random.nextInt(some.length)]);
         }
         if (random.nextInt(5) == 0) {
@@ -147,7 +194,7 @@ public final class OracleTest {
             int at = random.nextInt(text.length() + 1);
             text.insert(at, odd.charAt(random.nextInt(odd.length())));
         }
-        for (int i = 0; i < text.length() && calls < CALLS - 40; i += 5) {
+        for (int i = 0; i < text.length() && calls < CALLS - 26; i += 5) {
             int n = Math.min(5, text.length() - i);
             int[] b = new int[5];
             for (int k = 0; k < n; k++) {
@@ -228,6 +275,13 @@ public final class OracleTest {
     /** All that can be asked; what it answers does not depend on how many calls there were, so they are not counted. */
     private void askAll() {
         int things = m.count(3);
+        for (int i = 0; i < m.would(0); i++) {
+            seen[m.clash(i, 0)]++;
+        }
+        for (int thing = 0; thing < things; thing++) {
+            seen[5] += m.told(0, thing, 8);
+            seen[6] += m.told(0, thing, 6) == 1 && m.told(1, thing, 6) == 1 ? 1 : 0;
+        }
         for (int what = 0; what < 10; what++) {
             for (int thing = 0; thing < things; thing++) {
                 for (int side = 0; side < 3; side++) {
