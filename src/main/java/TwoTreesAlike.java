@@ -711,7 +711,7 @@ public final class TwoTreesAlike {
 
         private void readNumber() {
             part = 0;
-            while (isDigit(at)) {
+            while (at < size && isDigit(at)) {
                 // a third digit makes it WRONG, so what it is no longer matters
                 if (at - tokenAt < 2) {
                     part = part * 10 + bytes[at] - '0';
