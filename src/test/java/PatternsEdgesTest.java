@@ -172,9 +172,9 @@ public final class PatternsEdgesTest {
 
     /** "FAULT: .. also of a byte that begins none". */
     private static void bytesThatBeginNone() {
-        TwoTreesAlike x = new TwoTreesAlike();
         int begin = 0;
         for (int v = 0; v <= 255; v++) {
+            TwoTreesAlike x = new TwoTreesAlike();
             x.feed(2, '1', v, 0, 0, 0);
             boolean isBlank = v == 32 || v == 10;
             boolean isDigit = v >= '0' && v <= '9';
@@ -188,6 +188,7 @@ public final class PatternsEdgesTest {
             x.drop();
         }
         Check.is("eleven can be a pattern", begin, 11);
+        TwoTreesAlike x = new TwoTreesAlike();
         Check.is("behind /", Check.pattern(x, "1/\u00ff"), -102);
         Check.is("behind !", Check.pattern(x, "!?"), -101);
         Check.is("behind a fault", Check.pattern(x, "//?"), -100);
@@ -561,5 +562,13 @@ public final class PatternsEdgesTest {
         Check.pattern(x, "29/**/0");
         Check.is("the deepest", x.told(0, 0, 7), 1);
         Check.is("not the one above it", x.told(0, 1, 8), 0);
+        TwoTreesAlike y = new TwoTreesAlike();
+        for (int i = 0; i < 30; i++) {
+            y.make(1, i - 1, i, -1);
+        }
+        Check.pattern(y, "0");
+        Check.pattern(y, "!0/1");
+        Check.is("not by its path", y.told(1, 29, 7), 0);
+        Check.is("by the folder of the folder and so on", y.told(1, 29, 8), 1);
     }
 }

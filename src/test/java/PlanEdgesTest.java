@@ -284,29 +284,33 @@ public final class PlanEdgesTest {
         planIs("moved and written", x, side, aside(3), aside(6), place(6, -1, 0), write(6, 1), remove(3));
     }
 
-    private static void thirtyAside() {
+    private static TwoTreesAlike thirty() {
         TwoTreesAlike x = new TwoTreesAlike();
         for (int i = 0; i < 30; i++) {
             x.make(0, -1, i, i);
         }
         x.sync();
-        for (int i = 29; i >= 0; i--) {
-            x.move(0, i, -1, i + 1);
-        }
-        int[][] due = new int[60][];
+        return x;
+    }
+
+    private static void thirtyAside() {
+        TwoTreesAlike x = thirty();
+        TwoTreesAlike y = thirty();
+        int[][] placed = new int[60][];
+        int[][] removed = new int[60][];
         for (int i = 0; i < 30; i++) {
-            due[i] = aside(i);
-            due[30 + i] = place(i, -1, i + 1);
+            x.move(0, 29 - i, -1, 30 - i);
+            y.remove(0, i);
+            placed[i] = aside(i);
+            removed[i] = aside(i);
+            placed[30 + i] = place(i, -1, i + 1);
+            removed[59 - i] = remove(i);
         }
-        planIs("thirty are placed", x, 1, due);
-        for (int i = 0; i < 30; i++) {
-            x.remove(0, i);
-            due[59 - i] = remove(i);
-        }
-        planIs("thirty are removed", x, 1, due);
-        Check.is("sixty", x.sync(), 60);
-        Check.is("none is left", x.count(1), 0);
-        Check.is("none in last", x.count(2), 0);
+        planIs("thirty are placed", x, 1, placed);
+        planIs("thirty are removed", y, 1, removed);
+        Check.is("sixty", y.sync(), 60);
+        Check.is("none is left", y.count(1), 0);
+        Check.is("none in last", y.count(2), 0);
     }
 
     private static void thirtyMade() {

@@ -434,9 +434,9 @@ public final class SheetsEdgesTest {
     }
 
     private static void sheetTakesTheEdges() {
-        TwoTreesAlike x = new TwoTreesAlike();
         for (int sheet = 0; sheet < 4; sheet++) {
             for (int sort = 0; sort <= 1; sort++) {
+                TwoTreesAlike x = new TwoTreesAlike();
                 for (int n : new int[] {0, 1, 39, 40}) {
                     Check.is("sheet", x.sheet(sheet, sort, n), 1);
                     Check.is("of so many", Probe.size(x, sheet), n);

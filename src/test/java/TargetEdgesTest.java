@@ -27,6 +27,7 @@ public final class TargetEdgesTest {
         theLongestRing();
         mostRings();
         namesAtFortyNine();
+        namesAboveSixty();
         clashesInOrder();
         mostClashes();
         Check.end("TargetEdgesTest");
@@ -619,6 +620,38 @@ public final class TargetEdgesTest {
             Check.is("in last, too", x.told(2, thing, 2), Math.min(n, 50));
             Check.is("found", x.find(1, 0, Math.min(n, 50)), thing);
         }
+    }
+
+    /** IGNORED are all in THE ROOT but those under 0 .. 4; each of 17 has another NAME in each of the trees. */
+    private static void namesAboveSixty() {
+        TwoTreesAlike x = withFiles(17);
+        for (int i = 0; i < 17; i++) {
+            x.move(0, i, -1, i < 10 ? i : 40 + i - 10);
+        }
+        for (String pattern : new String[] {"*", "!0", "!1", "!2", "!3", "!4"}) {
+            Check.pattern(x, pattern);
+        }
+        // LAST has 10 .. 26, SIDE 0 has 0 .. 9 and 40 .. 46; now SIDE 1 has 27 .. 39, 47, 48, 49
+        for (int i = 0; i < 16; i++) {
+            Check.is("a name", x.move(1, i, -1, i < 13 ? 27 + i : 47 + i - 13), 1);
+        }
+        for (int i = 0; i < 5; i++) {
+            Check.is("come", x.make(1, -1, i, 1), 17 + i);
+        }
+        clashesAre("all names are had", x, 3, 17, 3, 18, 3, 19, 3, 20, 3, 21);
+        targetIs("the fifth", x, 21, -1, 54, 1);
+        for (int round = 0; round < 2; round++) {
+            x.sync();
+            for (int i = 0; i < 4; i++) {
+                Check.is("come", x.make(1, -1, i, 2), 22 + 4 * round + i);
+            }
+        }
+        clashesAre("thirty things", x, 3, 26, 3, 27, 3, 28, 3, 29);
+        targetIs("the twelfth", x, 28, -1, 61, 2);
+        targetIs("the last", x, 29, -1, 62, 2);
+        x.sync();
+        Check.is("found", x.find(0, -1, 62), 29);
+        Check.is("and ignored by that name", x.told(0, 29, 8), 1);
     }
 
     /** "CLASHES are in order of (1) to (5), in each by numbers of THINGS (RINGS as they are found)." */
