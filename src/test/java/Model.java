@@ -266,12 +266,13 @@ final class Model {
         return what < 0 || what > 2 ? -2 : now.latest[what];
     }
 
-    int feed(int n, int... bytes) {
+    int feed(int n, int a, int b, int c, int d, int e) {
+        int[] bytes = {a, b, c, d, e};
         if (n < 1 || n > 5) {
             return -2;
         }
-        for (int b : bytes) {
-            if (b < 0 || b > 255) {
+        for (int v : bytes) {
+            if (v < 0 || v > 255) {
                 return -2;
             }
         }

@@ -1,29 +1,30 @@
 import java.util.Random;
 
 /**
- * Runs of drawn calls (always the same ones) on the program and on Model, all answers compared; every now and then
- * all that can be asked is asked. Model's sync() does the STEPS one by one, and tells one that can't be done.
+ * Runs of drawn calls (always the same ones) on the program and on Model, all answers compared; at the end of a run all
+ * that can be asked is asked. Model's sync() does the STEPS one by one, and tells one that can't be done.
  */
 public final class OracleTest {
     private static final int RUNS = 700;
-    private static final int CALLS = 512;
+
+    // a change makes so many calls at most
+    private static final int ROOM = 35;
 
     private final Random random;
-    private final String name;
-    private final TwoTreesAlike x = new TwoTreesAlike();
-    private final Model m = new Model();
+    private final Pair pair;
+    private final Model m;
     private final int wildness;
     private final int names;
     private final boolean hasPatterns;
     private final int folders;
-    private int calls = 0;
 
     // clashes of kinds 0 to 4, ignored ones, ones that came on both sides, at the ends of runs
     private static final int[] seen = new int[7];
 
     private OracleTest(int run) {
         random = new Random(run);
-        name = "run " + run;
+        pair = new Pair("run " + run);
+        m = pair.model;
         wildness = run % 4 == 0 ? 8 : 60;
         names = run % 5 == 0 ? 50 : 6;
         hasPatterns = run % 3 != 0;
@@ -41,7 +42,7 @@ public final class OracleTest {
     }
 
     private void go() {
-        while (calls < CALLS - 35) {
+        while (pair.calls() < Pair.MOST_CALLS - ROOM) {
             if (random.nextInt(7) == 0) {
                 ask();
             } else {
@@ -51,9 +52,8 @@ public final class OracleTest {
         askAll();
     }
 
-    private void is(String call, int got, int due) {
-        calls++;
-        Check.is(name + ", call " + calls + ", " + call, got, due);
+    private void both(String call, int... args) {
+        pair.call(call, args);
     }
 
     /** A number from 0 to below a bound, but now and then one that may be none such. */
@@ -90,26 +90,26 @@ public final class OracleTest {
         switch (random.nextInt(20)) {
             case 0, 1, 2, 3 -> {
                 int content = random.nextInt(5) < folders ? -1 : v;
-                is("make", x.make(side, folder, called, content), m.make(side, folder, called, content));
+                both("make", side, folder, called, content);
             }
-            case 4, 5, 6, 7 -> is("write", x.write(side, thing, v), m.write(side, thing, v));
-            case 8, 9, 10, 11, 12 -> is("move", x.move(side, thing, folder, called), m.move(side, thing, folder, called));
-            case 13 -> is("remove", x.remove(side, thing), m.remove(side, thing));
+            case 4, 5, 6, 7 -> both("write", side, thing, v);
+            case 8, 9, 10, 11, 12 -> both("move", side, thing, folder, called);
+            case 13 -> both("remove", side, thing);
             case 14 -> {
                 if (random.nextInt(3) == 0) {
-                    is("sync", x.sync(), m.sync());
+                    both("sync");
                 } else {
                     cross(thing, thing());
                 }
             }
             case 15 -> pattern();
             case 16 -> {
-                is("drop", x.drop(), m.drop());
+                both("drop");
                 if (hasPatterns && random.nextInt(3) == 0) {
                     leaveHome(thing);
                 }
             }
-            case 17 -> is("prefer", x.prefer(side), m.prefer(side));
+            case 17 -> both("prefer", side);
             case 18 -> images();
             default -> sheets();
         }
@@ -118,8 +118,8 @@ public final class OracleTest {
     /** Two go into one another, each on a side: a ring, if they are folders. */
     private void cross(int a, int b) {
         int called = number(names);
-        is("move a", x.move(0, a, b, called), m.move(0, a, b, called));
-        is("move b", x.move(1, b, a, called), m.move(1, b, a, called));
+        both("move", 0, a, b, called);
+        both("move", 1, b, a, called);
     }
 
     /** One that is ignored loses its folder in LAST, but stays on both sides: it has COME on both, when it no longer is. */
@@ -130,27 +130,27 @@ public final class OracleTest {
         }
         String text = m.told(2, home, 2) + "/" + m.told(2, thing, 2);
         for (int i = 0; i < text.length(); i++) {
-            is("feed", x.feed(1, text.charAt(i), 0, 0, 0, 0), m.feed(1, text.charAt(i), 0, 0, 0, 0));
+            both("feed", 1, text.charAt(i), 0, 0, 0, 0);
         }
-        is("pattern", x.pattern(), m.pattern());
+        both("pattern");
         for (int side = 0; side < 2; side++) {
             int called = number(names);
-            is("leave", x.move(side, thing, -1, called), m.move(side, thing, -1, called));
-            is("remove", x.remove(side, home), m.remove(side, home));
+            both("move", side, thing, -1, called);
+            both("remove", side, home);
         }
-        is("sync", x.sync(), m.sync());
-        is("drop", x.drop(), m.drop());
+        both("sync");
+        both("drop");
         for (int what = 0; what < 4; what++) {
-            is("target", x.target(thing, what), m.target(thing, what));
+            both("target", thing, what);
         }
     }
 
     private void images() {
         int which = random.nextInt(12);
         if (which < 2) {
-            is("image", x.image(), m.image());
+            both("image");
         } else if (which == 2) {
-            is("back", x.back(), m.back());
+            both("back");
         }
     }
 
@@ -165,14 +165,14 @@ public final class OracleTest {
             case 0 -> {
                 int sort = number(3) - 1;
                 int size = number(41);
-                is("sheet", x.sheet(sheet, sort, size), m.sheet(sheet, sort, size));
+                both("sheet", sheet, sort, size);
             }
-            case 1 -> is("cell", x.cell(sheet, i, v), m.cell(sheet, i, v));
-            case 2 -> is("copy", x.copy(sheet, i, other, j, n), m.copy(sheet, i, other, j, n));
+            case 1 -> both("cell", sheet, i, v);
+            case 2 -> both("copy", sheet, i, other, j, n);
             default -> {
                 int side = tree();
                 int size = number(31);
-                is("film", x.film(sheet, side, size), m.film(sheet, side, size));
+                both("film", sheet, side, size);
             }
         }
     }
@@ -194,16 +194,16 @@ public final class OracleTest {
             int at = random.nextInt(text.length() + 1);
             text.insert(at, odd.charAt(random.nextInt(odd.length())));
         }
-        for (int i = 0; i < text.length() && calls < CALLS - 26; i += 5) {
+        for (int i = 0; i < text.length() && pair.calls() < Pair.MOST_CALLS - ROOM + 9; i += 5) {
             int n = Math.min(5, text.length() - i);
             int[] b = new int[5];
             for (int k = 0; k < n; k++) {
                 b[k] = text.charAt(i + k);
             }
-            is("feed", x.feed(n, b[0], b[1], b[2], b[3], b[4]), m.feed(n, b));
+            both("feed", n, b[0], b[1], b[2], b[3], b[4]);
         }
         if (random.nextInt(20) > 0) {
-            is("pattern", x.pattern(), m.pattern());
+            both("pattern");
         }
     }
 
@@ -215,64 +215,24 @@ public final class OracleTest {
         int seed = random.nextInt();
         int sheet = number(4);
         switch (random.nextInt(14)) {
-            case 0 -> {
-                int what = number(10);
-                is("told", x.told(tree, thing, what), m.told(tree, thing, what));
-            }
-            case 1 -> {
-                int folder = folder();
-                is("find", x.find(tree, folder, i), m.find(tree, folder, i));
-            }
-            case 2 -> {
-                int kind = number(3);
-                is("taken", x.taken(thing, kind), m.taken(thing, kind));
-            }
-            case 3 -> {
-                int what = number(3);
-                is("latest", x.latest(what), m.latest(what));
-            }
-            case 4 -> {
-                int p = number(m.count(4));
-                is("matches", x.matches(p, tree, thing), m.matches(p, tree, thing));
-            }
-            case 5 -> {
-                int what = number(4);
-                is("target", x.target(thing, what), m.target(thing, what));
-            }
-            case 6 -> {
-                int what = number(2);
-                is("clash", x.clash(i, what), m.clash(i, what));
-            }
-            case 7 -> {
-                int what = number(5);
-                is("step", x.step(side, i, what), m.step(side, i, what));
-            }
-            case 8 -> {
-                int what = number(4);
-                is("would", x.would(what), m.would(what));
-            }
-            case 9 -> is("spared", x.spared(side, thing), m.spared(side, thing));
-            case 10 -> {
-                int n = number(21);
-                is("drawn", x.drawn(seed, n), m.drawn(seed, n));
-            }
-            case 11 -> {
-                int seeds = number(11);
-                int part = number(2);
-                is("chance", x.chance(seed, seeds, part), m.chance(seed, seeds, part));
-            }
-            case 12 -> {
-                int what = number(2);
-                is("tells", x.tells(sheet, tree, what), m.tells(sheet, tree, what));
-            }
-            default -> {
-                int what = number(7);
-                is("count", x.count(what), m.count(what));
-            }
+            case 0 -> both("told", tree, thing, number(10));
+            case 1 -> both("find", tree, folder(), i);
+            case 2 -> both("taken", thing, number(3));
+            case 3 -> both("latest", number(3));
+            case 4 -> both("matches", number(m.count(4)), tree, thing);
+            case 5 -> both("target", thing, number(4));
+            case 6 -> both("clash", i, number(2));
+            case 7 -> both("step", side, i, number(5));
+            case 8 -> both("would", number(4));
+            case 9 -> both("spared", side, thing);
+            case 10 -> both("drawn", seed, number(21));
+            case 11 -> both("chance", seed, number(11), number(2));
+            case 12 -> both("tells", sheet, tree, number(2));
+            default -> both("count", number(7));
         }
     }
 
-    /** All that can be asked; what it answers does not depend on how many calls there were, so they are not counted. */
+    /** All that can be asked; Pair takes other objects for it, as it is more than 512 calls. */
     private void askAll() {
         int things = m.count(3);
         for (int i = 0; i < m.would(0); i++) {
@@ -285,39 +245,35 @@ public final class OracleTest {
         for (int what = 0; what < 10; what++) {
             for (int thing = 0; thing < things; thing++) {
                 for (int side = 0; side < 3; side++) {
-                    all("told " + side + " " + thing + " " + what, x.told(side, thing, what), m.told(side, thing, what));
+                    both("told", side, thing, what);
                 }
             }
         }
         for (int thing = 0; thing < 30; thing++) {
             for (int what = 0; what < 4; what++) {
-                all("target " + thing + " " + what, x.target(thing, what), m.target(thing, what));
+                both("target", thing, what);
             }
-            all("spared 0 " + thing, x.spared(0, thing), m.spared(0, thing));
-            all("spared 1 " + thing, x.spared(1, thing), m.spared(1, thing));
+            both("spared", 0, thing);
+            both("spared", 1, thing);
         }
         for (int i = 0; i <= m.would(0); i++) {
-            all("clash " + i + " 0", x.clash(i, 0), m.clash(i, 0));
-            all("clash " + i + " 1", x.clash(i, 1), m.clash(i, 1));
+            both("clash", i, 0);
+            both("clash", i, 1);
         }
         for (int side = 0; side < 2; side++) {
             for (int i = 0; i <= m.would(1 + side); i++) {
                 for (int what = 0; what < 5; what++) {
-                    all("step " + side + " " + i + " " + what, x.step(side, i, what), m.step(side, i, what));
+                    both("step", side, i, what);
                 }
             }
         }
         for (int what = 0; what < 7; what++) {
-            all("count", x.count(what), m.count(what));
+            both("count", what);
         }
-        all("alike", x.would(3), m.would(3));
-        all("sync", x.sync(), m.sync());
+        both("would", 3);
+        both("sync");
         for (int what = 0; what < 4; what++) {
-            all("would behind sync " + what, x.would(what), m.would(what));
+            both("would", what);
         }
-    }
-
-    private void all(String call, int got, int due) {
-        Check.is(name + ", at the end, " + call, got, due);
     }
 }

@@ -31,6 +31,8 @@ public final class PlanEdgesTest {
         syncedIsAlike();
         alikeIsNotAsInLast();
         newOnesComeToBe();
+        allIgnoredGoOutOfLast(true);
+        allIgnoredGoOutOfLast(false);
         Check.end("PlanEdgesTest");
     }
 
@@ -498,5 +500,30 @@ public final class PlanEdgesTest {
         Check.is("three are in last", x.count(2), 3);
         Check.is("come then", x.told(side, 6, 6), 1);
         Check.is("come there", x.told(1 - side, 2, 6), 1);
+    }
+
+    /** Thirty FOLDERS, each in the next one (or in the one before): with the outermost all go out of LAST, one by one. */
+    private static void allIgnoredGoOutOfLast(boolean upward) {
+        TwoTreesAlike x = new TwoTreesAlike();
+        for (int i = 0; i < 30; i++) {
+            x.make(0, -1, 10 + i, -1);
+        }
+        for (int i = 0; i < 29; i++) {
+            x.move(0, upward ? i : i + 1, upward ? i + 1 : i, 9);
+        }
+        x.sync();
+        int outermost = upward ? 29 : 0;
+        Check.is("the innermost", x.told(2, 29 - outermost, 5), 29);
+        Check.pattern(x, (10 + outermost) + "/9");
+        Check.is("the outermost is not ignored", x.told(2, outermost, 8), 0);
+        Check.is("the innermost is", x.told(2, 29 - outermost, 8), 1);
+        x.remove(0, outermost);
+        Check.is("kept by ignored ones", x.clash(0, 1), outermost);
+        x.remove(1, outermost);
+        Check.is("none is there", x.would(1) + x.would(2) + x.would(0), 0);
+        Check.is("all are in last", x.count(2), 30);
+        Check.is("no steps", x.sync(), 0);
+        Check.is("none is in last", x.count(2), 0);
+        Check.is("nor the innermost", x.told(2, 29 - outermost, 0), 0);
     }
 }

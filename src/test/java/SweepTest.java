@@ -19,18 +19,15 @@ public final class SweepTest {
     // what the other arguments are: what no call refuses at once
     private static final int[][] PLAIN = {{0, 1, 2, 0, 1, 0}, {1, 0, -1, 1, 0, 1}};
 
-    // calls that change nothing, and those that change SHEETS alone
-    private static final List<String> ASKING = List.of("told", "find", "taken", "latest", "matches", "target", "clash",
-            "step", "would", "spared", "drawn", "chance", "tells", "count");
+    // calls that change SHEETS alone
     private static final List<String> SHEETS = List.of("film", "sheet", "cell", "copy");
 
-    private final TwoTreesAlike x = new TwoTreesAlike();
-    private final Model m = new Model();
+    private final Pair pair;
     private final String name;
-    private int calls = 0;
 
-    private SweepTest(String name, boolean isFull) throws ReflectiveOperationException {
+    private SweepTest(String name, boolean isFull) {
         this.name = name;
+        pair = new Pair(name);
         // the same as Probe.busy(), on both
         int[][] things = {{0, -1, 10, 9}, {0, -1, 11, -1}, {0, 1, 12, -1}, {0, 2, 13, 5}, {0, 1, 14, 6}};
         for (int[] a : things) {
@@ -57,7 +54,7 @@ public final class SweepTest {
         }
     }
 
-    public static void main(String[] args) throws ReflectiveOperationException {
+    public static void main(String[] args) {
         List<Method> face = new ArrayList<>();
         for (Method method : TwoTreesAlike.class.getDeclaredMethods()) {
             if (Modifier.isPublic(method.getModifiers())) {
@@ -73,7 +70,7 @@ public final class SweepTest {
         Check.end("SweepTest");
     }
 
-    private static void sweep(Method method, int[] plain, boolean isFull) throws ReflectiveOperationException {
+    private static void sweep(Method method, int[] plain, boolean isFull) {
         int n = method.getParameterCount();
         int[] args = Arrays.copyOf(plain, n);
         SweepTest test = new SweepTest(method.getName() + " " + Arrays.toString(plain), isFull);
@@ -96,10 +93,10 @@ public final class SweepTest {
     }
 
     /** Makes the call; whether the object is to be made anew: it is another now, or has had most of its 512 calls. */
-    private boolean isSpent(Method method, int[] args) throws ReflectiveOperationException {
+    private boolean isSpent(Method method, int[] args) {
         int answer = both(method.getName(), args);
-        if (ASKING.contains(method.getName())) {
-            return calls > 450;
+        if (Pair.ASKING.contains(method.getName())) {
+            return pair.calls() > 450;
         }
         for (int what = 0; what <= 6; what++) {
             both("count", what);
@@ -113,29 +110,17 @@ public final class SweepTest {
                 both("would", what);
             }
         }
-        return answer >= -1 || calls > 450;
+        return answer >= -1 || pair.calls() > 450;
     }
 
-    private void pattern(String text) throws ReflectiveOperationException {
+    private void pattern(String text) {
         for (int i = 0; i < text.length(); i++) {
             both("feed", 1, text.charAt(i), 0, 0, 0, 0);
         }
         both("pattern");
     }
 
-    private int both(String call, int... args) throws ReflectiveOperationException {
-        calls++;
-        Object[] boxed = Arrays.stream(args).boxed().toArray();
-        Class<?>[] types = new Class<?>[args.length];
-        Arrays.fill(types, int.class);
-        int got = (int) TwoTreesAlike.class.getDeclaredMethod(call, types).invoke(x, boxed);
-        int due;
-        if (call.equals("feed")) {
-            due = m.feed(args[0], Arrays.copyOfRange(args, 1, 6));
-        } else {
-            due = (int) Model.class.getDeclaredMethod(call, types).invoke(m, boxed);
-        }
-        Check.is(name + ": " + call + Arrays.toString(args), got, due);
-        return got;
+    private int both(String call, int... args) {
+        return pair.call(call, args);
     }
 }

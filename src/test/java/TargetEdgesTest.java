@@ -22,6 +22,7 @@ public final class TargetEdgesTest {
             theLeastName(side);
             namesThatIgnoredOnesHave(side);
             comeOnBothSides(side);
+            preferAsItIsNow(side);
         }
         theThirtiethHasAName();
         theLongestRing();
@@ -552,6 +553,43 @@ public final class TargetEdgesTest {
         x.move(1, 29, -1, 0);
         clashesAre("on side 1", x, 3, 0);
         targetIs("the next", x, 0, -1, 1, 0);
+    }
+
+    /** "THE FIRST is the SIDE that PREFER tells": now, whatever it was when AN IMAGE was kept or thought was taken. */
+    private static void preferAsItIsNow(int side) {
+        int other = 1 - side;
+        TwoTreesAlike x = base();
+        x.prefer(other);
+        x.image();
+        x.drawn(0, 0);
+        x.prefer(side);
+        x.move(side, 2, 4, 40);
+        x.move(other, 2, -1, 20);
+        x.move(other, 3, 4, 40);
+        x.write(side, 3, 7);
+        x.write(other, 3, 8);
+        clashesAre("by it", x, 1, 2, 2, 3, 3, 3, 3, 5);
+        targetIs("by it", x, 2, 4, 40, 5);
+        targetIs("by it", x, 3, 4, 0, 7);
+        targetIs("by it", x, 5, 4, 1, 8);
+        Check.is("its steps", x.step(side, 0, 1), 3);
+        Check.is("the other's steps", x.step(other, 0, 1), 2);
+        Check.is("spared here", x.spared(side, 3), 2);
+        Check.is("spared there", x.spared(other, 3), 2);
+        Check.is("drawn", x.drawn(7, 0), 4);
+        Check.is("how many steps here", x.would(1 + side), 3);
+        Check.is("how many steps there", x.would(1 + other), 6);
+        x.prefer(other);
+        clashesAre("by the other", x, 1, 2, 2, 3, 3, 5);
+        targetIs("by the other", x, 2, -1, 20, 5);
+        targetIs("by the other", x, 3, 4, 40, 8);
+        targetIs("by the other", x, 5, 4, 0, 7);
+        Check.is("by the other, its steps", x.step(side, 0, 1), 2);
+        Check.is("by the other, spared here", x.spared(side, 3), 2);
+        Check.is("by the other, drawn", x.drawn(7, 0), 3);
+        x.prefer(side);
+        Check.is("steps", x.sync(), 9);
+        Check.is("by it, done", x.told(other, 2, 2), 40);
     }
 
     /** "(COME on both: as on THE FIRST, CONTENT too, and no CLASH by that)". */
